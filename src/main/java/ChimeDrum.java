@@ -776,7 +776,7 @@ public final class ChimeDrum {
         private final int[] lacks = new int[MOST_STROKES];
         /** Of each stroke a bit for each earlier stroke that is too near. */
         private final int[] clashes = new int[MOST_STROKES];
-        /** By stroke and state: the fewest pins lacking from the stroke on, and the state behind its least hammer for that. */
+        /** By stroke and state: the fewest pins lacking from the stroke on, and the state that its best hammer leads to. */
         private final int[] fewest = new int[MOST_STROKES * STATES];
         private final int[] bestState = new int[MOST_STROKES * STATES];
 

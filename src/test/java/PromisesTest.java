@@ -158,6 +158,8 @@ public final class PromisesTest {
         due("the last pin", true, x.pin(35, 31, true));
         due("none behind it", false, x.pin(36, 31, true));
         due("heard", 1, x.turn(31, 1));
+        due("read", "c31", readBack(x, 31, 1));
+        due("pins of the last", 1, x.look(11, 5));
     }
 
     private static void cracks() {
