@@ -208,6 +208,7 @@ public final class BoundaryNumbersTest extends Check {
         due("strikes behind", NONE, x.strikes(36, 63));
         due("mend behind", NONE, x.mend(36, 63));
         due("heard", 2, x.turn(63, 2));
+        due("read", "b01c01", x.readBack(63, 2));
         due("pins of the last bell", 1, x.look(11, 5));
         due("pins of the last but one", 0, x.look(10, 5));
     }

@@ -33,6 +33,10 @@ public final class BoundarySettingTest extends Check {
         bestIsTheLeastRow();
         bestGoesInTheOrderOfUnits();
         bestLooksAhead();
+        bestOfTwelveStrokes();
+        threeSideBySide();
+        threeSideBySideRoundTheRing();
+        fourSideBySide();
         pinsOutAndIn();
         othersStayAsTheyAre();
         restsTakeAllOut();
@@ -548,6 +552,16 @@ public final class BoundarySettingTest extends Check {
         x.pin(2, 7, true);
         due("pins beside it are of no use", 4, x.set(0, 4));
         due("pins", "0:4=0 1:5=0", x.pins());
+        Tower y = new Tower();
+        y.bell(0, 1, 2);
+        y.rest(1);
+        y.pin(0, 0, true);
+        y.pin(0, 2, true);
+        y.pin(1, 4, true);
+        y.rest(3);
+        y.tell(0, "c02c02c01");
+        due("one lacks rather than two", 2, y.set(0, 0));
+        due("pins", "0:2=0 1:0=0 1:4=0", y.pins());
     }
 
     private static void bestCountsBrokenPins() {
@@ -633,6 +647,100 @@ public final class BoundarySettingTest extends Check {
         x.pin(0, 8, true);
         due("a pin of the last stroke", 4, x.set(0, 0));
         due("decides over the first one", "0:2=0 0:8=0 1:0=0 1:4=0 2:6=0", x.pins());
+    }
+
+    private static void bestOfTwelveStrokes() {
+        sentence("No BELL has more than 12 STROKES");
+        Tower x = new Tower();
+        x.bell(0, 1, 3);
+        x.holes(64);
+        x.tell(0, "c05".repeat(12));
+        StringBuilder[] tracks = {new StringBuilder(), new StringBuilder(), new StringBuilder()};
+        for (int i = 0; i < 12; i++) {
+            int track = 2 - i * i % 3;
+            x.pin(track, 5 * i, true);
+            tracks[track].append(track).append(':').append(5 * i).append("=0 ");
+        }
+        due("each has its pin", 0, x.set(0, 0));
+        due("pins", tracks[0].append(tracks[1]).append(tracks[2]).toString().trim(), x.pins());
+        x.pin(2, 0, false);
+        x.pin(1, 50, false);
+        due("two lack", 2, x.set(0, 0));
+        due("the first one by the least row", 0, x.strikes(0, 0));
+        due("the last but one by the least row", 0, x.strikes(0, 50));
+    }
+
+    /** Twelve strokes of length 5, but some from the first near one on (round the ring) of length 1. */
+    private static String twelveWithNear(int first, int near) {
+        StringBuilder text = new StringBuilder();
+        for (int i = 0; i < 12; i++) {
+            text.append("c0").append(Math.floorMod(i - first, 12) < near ? 1 : 5);
+        }
+        return text.toString();
+    }
+
+    private static int holeOf(int stroke, int first, int near) {
+        int hole = 0;
+        for (int i = 0; i < stroke; i++) {
+            hole += Math.floorMod(i - first, 12) < near ? 1 : 5;
+        }
+        return hole;
+    }
+
+    private static void threeSideBySide() {
+        sentence("no two STROKES of one HAMMER have a DISTANCE below R");
+        for (int first = 0; first <= 9; first++) {
+            Tower x = new Tower();
+            x.bell(0, 1, 3);
+            x.holes(64);
+            x.tell(0, twelveWithNear(first, 2));
+            due("set", 12, x.set(0, 0));
+            for (int i = 0; i < 12; i++) {
+                int hammer = i > first && i <= first + 2 ? i - first : 0;
+                due("stroke " + i + ", near from " + first, 0, x.strikes(hammer, holeOf(i, first, 2)));
+            }
+            due("one hammer less", 5, whyWithHammers(2, 64, twelveWithNear(first, 2)));
+        }
+    }
+
+    private static void threeSideBySideRoundTheRing() {
+        sentence("in a ring (behind the last one comes 0)");
+        for (int first = 10; first <= 11; first++) {
+            Tower x = new Tower();
+            x.bell(0, 1, 3);
+            x.holes(52);
+            x.tell(0, twelveWithNear(first, 2));
+            due("set", 12, x.set(0, 0));
+            for (int i = 0; i < 12; i++) {
+                int[] hammers = first == 10 ? new int[] {0, 0, 1, 2} : new int[] {0, 1, 0, 2};
+                int hammer = i < 2 ? hammers[i] : i >= 10 ? hammers[i - 8] : 0;
+                due("stroke " + i + ", near from " + first, 0, x.strikes(hammer, holeOf(i, first, 2)));
+            }
+            due("one hammer less", 5, whyWithHammers(2, 52, twelveWithNear(first, 2)));
+        }
+    }
+
+    private static int whyWithHammers(int hammers, int holes, String text) {
+        Tower x = new Tower();
+        x.bell(0, 1, hammers);
+        x.holes(holes);
+        x.tell(0, text);
+        return x.why(0, holes - 1);
+    }
+
+    private static void fourSideBySide() {
+        sentence("Each STROKE has one HAMMER of its BELL so that no two STROKES of one HAMMER have a DISTANCE below R");
+        for (int first = 0; first <= 11; first++) {
+            Tower x = new Tower();
+            x.bell(0, 1, 3);
+            x.holes(48);
+            x.rest(4);
+            x.tell(0, twelveWithNear(first, 3));
+            due("four within R, near from " + first, 5, x.why(0, 7));
+            due("set", NONE, x.set(0, 7));
+            x.rest(3);
+            due("three within R, near from " + first, 0, x.why(0, 7));
+        }
     }
 
     private static void pinsOutAndIn() {
